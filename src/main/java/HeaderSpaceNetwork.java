@@ -68,8 +68,6 @@ public final class HeaderSpaceNetwork {
         for (int i = 0; i < MOST_POLICIES; i++) {
             policies[i] = new Policy();
         }
-        policyCount = 0;
-        entry = 0;
         entering = net.allHeaders();
     }
 
@@ -380,7 +378,7 @@ public final class HeaderSpaceNetwork {
     }
 
     public long loops() {
-        fates.findEnding();
+        fates.find(NOWHERE);
         return entering & ~fates.found[entry];
     }
 
@@ -581,7 +579,7 @@ public final class HeaderSpaceNetwork {
     }
 
     private long against(Policy policy) {
-        fates.findDelivered(policy.target);
+        fates.find(policy.target);
         long delivered = fates.found[policy.from];
         return policy.headers & (policy.always ? ~delivered : delivered);
     }
@@ -621,7 +619,7 @@ public final class HeaderSpaceNetwork {
 
         /** Those of the headers that it would handle at a port if it were asked first. */
         long taken(int port, long asked) {
-            return on && hasPort(ports, port) ? asked & headers : 0L;
+            return on && (ports >> port & 1) != 0 ? asked & headers : 0L;
         }
 
         int rewritten(int header) {
@@ -1003,18 +1001,12 @@ public final class HeaderSpaceNetwork {
             this.net = net;
         }
 
-        /** Finds the headers whose packets, with all copies, come to an end: no loop follows. */
-        void findEnding() {
-            growFully(NOWHERE);
-        }
-
-        /** Finds the headers whose packets have a copy that is delivered at a place. */
-        void findDelivered(int target) {
-            growFully(target);
-        }
-
-        /** Every pass but the last one adds an arrival, so there can't be more passes. */
-        private void growFully(int target) {
+        /**
+         * Finds the headers whose packets have a copy that is delivered at the target; if that is
+         * NOWHERE, the headers whose packets come to an end with all their copies, so that no loop
+         * follows. Every pass but the last one adds an arrival, so there can't be more passes.
+         */
+        void find(int target) {
             Arrays.fill(found, 0L);
             boolean grown = true;
             for (int pass = 0; grown && pass <= MOST_ARRIVALS; pass++) {
@@ -1147,7 +1139,7 @@ public final class HeaderSpaceNetwork {
      * delivered. A way that is open while some rules are off stays open when further rules are
      * switched off that are not on it, for these neither handled the packet nor came before one
      * that did. So a set can only be a cut if each of its rules is on the way that the others
-     * leave open; only such sets are tried. Rules are numbered through all boxes.
+     * leave open; only such sets are tried. Rules are numbered through all boxes, by slots.
      */
     private static final class Cuts {
         final Net net;
@@ -1155,7 +1147,7 @@ public final class HeaderSpaceNetwork {
         private final long[] withoutOne = new long[SLOTS];
         private final long[] withoutTwo = new long[SLOTS * SLOTS];
         private final int[] queue = new int[MOST_ARRIVALS];
-        private final int[] before = new int[MOST_ARRIVALS];
+        private final long[] wayHere = new long[MOST_ARRIVALS];
         private final long[] seen = new long[PLACES];
         private int queued;
         private int from;
@@ -1198,26 +1190,19 @@ public final class HeaderSpaceNetwork {
         private boolean cutByTwo() {
             for (int one = 0; one < SLOTS; one++) {
                 for (int two = one + 1; two < SLOTS; two++) {
-                    long way = wayWithoutTwo(one, two);
-                    withoutTwo[one * SLOTS + two] = way;
+                    long way = knownWay(one, two);
+                    if (way == 0) {
+                        way = openWay(1L << one | 1L << two);
+                    }
                     if (way == 0) {
                         members[0] = one;
                         members[1] = two;
                         return true;
                     }
+                    withoutTwo[one * SLOTS + two] = way;
                 }
             }
             return false;
-        }
-
-        private long wayWithoutTwo(int one, int two) {
-            if (!isOn(withoutOne[one], two)) {
-                return withoutOne[one];
-            }
-            if (!isOn(withoutOne[two], one)) {
-                return withoutOne[two];
-            }
-            return openWay(1L << one | 1L << two);
         }
 
         private boolean cutByThree() {
@@ -1225,7 +1210,8 @@ public final class HeaderSpaceNetwork {
                 for (int two = one + 1; two < SLOTS; two++) {
                     long way = withoutTwo[one * SLOTS + two];
                     for (int three = two + 1; three < SLOTS && way >>> three != 0; three++) {
-                        if (isOn(way, three) && isCut(one, two, three)) {
+                        if (isWorthTrying(one, two, three)
+                            && openWay(1L << one | 1L << two | 1L << three) == 0) {
                             members[0] = one;
                             members[1] = two;
                             members[2] = three;
@@ -1237,81 +1223,78 @@ public final class HeaderSpaceNetwork {
             return false;
         }
 
-        private boolean isCut(int one, int two, int three) {
-            return isOn(withoutTwo[one * SLOTS + three], two)
-                && isOn(withoutTwo[two * SLOTS + three], one)
-                && openWay(1L << one | 1L << two | 1L << three) == 0;
+        /** A way that was found with one of the two off and does not need the other; or none. */
+        private long knownWay(int one, int two) {
+            if (!isOn(withoutOne[one], two)) {
+                return withoutOne[one];
+            }
+            return isOn(withoutOne[two], one) ? 0L : withoutOne[two];
+        }
+
+        private boolean isWorthTrying(int one, int two, int three) {
+            return isOn(withoutTwo[one * SLOTS + two], three)
+                && isOn(withoutTwo[one * SLOTS + three], two)
+                && isOn(withoutTwo[two * SLOTS + three], one);
         }
 
         private static boolean isOn(long way, int slot) {
             return (way >>> slot & 1L) != 0;
         }
 
-        /** The rules of a shortest way while these rules are off; none if nothing is delivered. */
+        /** A way of the fewest arrivals while these rules are off; none if nothing is delivered. */
         private long openWay(long off) {
             Arrays.fill(seen, 0L);
             queued = 0;
             for (int header = 0; header < MOST_HEADERS; header++) {
                 if (hasHeader(packets, header)) {
-                    enqueue(from, header, NOBODY);
+                    enqueue(from, header, 0L);
                 }
             }
             for (int at = 0; at < queued && at < MOST_ARRIVALS; at++) {
-                if (leadsToTarget(at, off)) {
-                    return rulesUntil(at, off);
+                int slot = handlingSlot(at, off);
+                if (slot != NOBODY && reachesTarget(at, slot)) {
+                    return wayHere[at] | 1L << slot;
                 }
             }
             return 0L;
         }
 
         /** Queues each arrival once, so the queue is long enough for all of them. */
-        private void enqueue(int place, int header, int previous) {
+        private void enqueue(int place, int header, long way) {
             if (!hasHeader(seen[place], header) && queued < MOST_ARRIVALS) {
                 seen[place] |= 1L << header;
                 queue[queued] = place * MOST_HEADERS + header;
-                before[queued] = previous;
+                wayHere[queued] = way;
                 queued++;
             }
         }
 
-        /** Queues what follows from an arrival, unless it is delivered where it must not be. */
-        private boolean leadsToTarget(int at, long off) {
-            int box = queue[at] / (MOST_HEADERS * PORTS);
-            int handler = handlerOf(at, off);
-            if (handler == NOBODY) {
-                return false;
-            }
-            Rule rule = net.boxes[box].rules[handler];
+        private int handlingSlot(int at, long off) {
+            int place = queue[at] / MOST_HEADERS;
+            int firstSlot = place / PORTS * MOST_RULES;
+            int offHere = (int) (off >>> firstSlot);
+            RuleList list = net.boxes[place / PORTS];
+            int handler = list.handler(place % PORTS, queue[at] % MOST_HEADERS, offHere);
+            return handler == NOBODY ? NOBODY : firstSlot + handler;
+        }
+
+        /** Queues what follows from an arrival, unless a copy is delivered at the target. */
+        private boolean reachesTarget(int at, int slot) {
+            int box = slot / MOST_RULES;
+            Rule rule = net.boxes[box].rules[slot % MOST_RULES];
             int header = rule.rewritten(queue[at] % MOST_HEADERS);
+            long way = wayHere[at] | 1L << slot;
             for (int port = 0; port < PORTS; port++) {
                 if (hasPort(rule.outputs, port)) {
                     int far = net.far[placeOf(box, port)];
                     if (far != NOWHERE) {
-                        enqueue(far, header, at);
+                        enqueue(far, header, way);
                     } else if (placeOf(box, port) == target) {
                         return true;
                     }
                 }
             }
             return false;
-        }
-
-        private int handlerOf(int at, long off) {
-            int place = queue[at] / MOST_HEADERS;
-            int box = place / PORTS;
-            int offHere = (int) (off >>> box * MOST_RULES);
-            return net.boxes[box].handler(place % PORTS, queue[at] % MOST_HEADERS, offHere);
-        }
-
-        private long rulesUntil(int last, long off) {
-            long rules = 0L;
-            int at = last;
-            for (int i = 0; i < MOST_ARRIVALS && at >= 0; i++) {
-                int box = queue[at] / (MOST_HEADERS * PORTS);
-                rules |= 1L << box * MOST_RULES + handlerOf(at, off);
-                at = before[at];
-            }
-            return rules;
         }
     }
 

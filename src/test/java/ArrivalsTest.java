@@ -88,6 +88,7 @@ public final class ArrivalsTest {
     private static void promise21() {
         Script.run("21: one cube",
             "cube(0, 0, 0, 0) = 0; cube(0, 0, 0, 1) = 0; cube(0, 0, 1, 0) = NONE; cube(1, 0, 0, 0) = NONE",
+            "inject(0, 0, 15, 0) = 1; cube(0, 0, 0, 0) = 15; cube(0, 0, 0, 1) = 0; cube(0, 0, 1, 0) = NONE",
             "inject(0, 0, 5, 13) = 4; cube(0, 0, 0, 0) = 5; cube(0, 0, 0, 1) = 5; cube(0, 0, 1, 1) = NONE");
         // Headers 1, 2, 3 arrive: 1 grows by bit 1 (not by bit 0) to 1 and 3; 2 grows by bit 0 to 2 and 3.
         Script.run("21: cubes may meet", "reset(2) = 4; connect(0, 1, 1, 0) = 1",

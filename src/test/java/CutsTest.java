@@ -29,6 +29,18 @@ public final class CutsTest {
             "insertForward(3, 0, 1, 0, 0, 8) = 1; insertForward(3, 1, 2, 0, 0, 8) = 2; cutSize(3, 3) = 2",
             "cutRule(3, 3, 0) = 0; cutRule(3, 3, 1) = 1; insertForward(0, 2, 1, 0, 0, 4) = 3",
             "cutSize(3, 3) = 2; cutRule(3, 3, 0) = 0; cutRule(3, 3, 1) = 20");
+        // Each box sends two copies to the next one, and only header 31 is delivered by the last.
+        StringBuilder chain = new StringBuilder("reset(5) = 4;");
+        for (int box = 0; box < 5; box++) {
+            chain.append("connect(" + box + ", 2, " + (box + 1) + ", 0) = " + (2 * box + 1) + ";");
+            chain.append("connect(" + box + ", 3, " + (box + 1) + ", 1) = " + (2 * box + 2) + ";");
+            chain.append("insertForward(" + box + ", 0, 15, 0, 0, 12) = 1;");
+        }
+        Script.run("27: many copies that meet again", chain.toString(),
+            "insertForward(5, 0, 15, 31, 31, 4) = 1; delivered(5, 2) = 2147483648; cutSize(5, 2) = 1",
+            "cutRule(5, 2, 0) = 0; insertForward(0, 1, 15, 0, 0, 8) = 2; cutRule(5, 2, 0) = 10");
+        Script.run("27: header 0 and port 0",
+            "inject(0, 0, 15, 0) = 1; insertForward(0, 0, 1, 15, 0, 1) = 1; cutSize(0, 0) = 1; cutSize(0, 1) = 0");
         Script.run("27: nothing changes by it",
             "insertForward(0, 0, 1, 0, 0, 2) = 1; insertForward(0, 1, 1, 0, 0, 2) = 2; cutSize(0, 1) = 2",
             "rule(0, 0, 6) = 1; rule(0, 1, 6) = 1; count(4) = 2; delivered(0, 1) = 65535; hits(0, 0) = 16");

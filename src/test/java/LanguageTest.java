@@ -1,14 +1,21 @@
 import java.io.IOException;
+import java.io.PrintWriter;
+import java.io.StringWriter;
 import java.lang.reflect.Constructor;
 import java.lang.reflect.Field;
 import java.lang.reflect.Method;
 import java.lang.reflect.Modifier;
 import java.nio.file.Files;
 import java.nio.file.Path;
+import java.util.ArrayList;
+import java.util.List;
+import java.util.Map;
 import java.util.Set;
+import java.util.TreeMap;
 import java.util.TreeSet;
 import java.util.regex.Matcher;
 import java.util.regex.Pattern;
+import java.util.spi.ToolProvider;
 
 /** The face of the document, and those rules of LANGUAGE.md that can be seen from outside. */
 public final class LanguageTest {
@@ -36,6 +43,7 @@ public final class LanguageTest {
         checkFace();
         checkClasses();
         checkSource(Files.readString(SOURCE));
+        checkDepth();
         System.out.println(wrong + " wrong");
         if (wrong != 0) {
             System.exit(1);
@@ -115,6 +123,55 @@ public final class LanguageTest {
                 check(method.getParameterCount() <= 7, method + " has too many parameters");
             }
         }
+    }
+
+    /** Reads what javap tells of the compiled classes: who calls whom of the file's own methods. */
+    private static void checkDepth() {
+        String classes = System.getProperty("java.class.path");
+        StringWriter told = new StringWriter();
+        List<String> arguments = new ArrayList<>(List.of("-c", "-p", "-cp", classes, "HeaderSpaceNetwork"));
+        for (Class<?> type : HeaderSpaceNetwork.class.getDeclaredClasses()) {
+            arguments.add(type.getName());
+        }
+        PrintWriter writer = new PrintWriter(told);
+        ToolProvider.findFirst("javap").orElseThrow().run(writer, writer, arguments.toArray(new String[0]));
+        Map<String, Set<String>> calls = new TreeMap<>();
+        String type = "";
+        String method = "";
+        for (String line : told.toString().split("\n")) {
+            Matcher head = Pattern.compile("^(?:\\w+ )*class (HeaderSpaceNetwork\\S*) \\{").matcher(line);
+            Matcher start = Pattern.compile("^  [^ ].*?([\\w$]+)\\(.*\\);$").matcher(line);
+            Matcher call = Pattern.compile("// Method (?:(HeaderSpaceNetwork[\\w$]*)\\.)?(\"<init>\"|\\w+):")
+                .matcher(line);
+            if (head.find()) {
+                type = head.group(1);
+            } else if (start.find()) {
+                method = type + "." + (start.group(1).startsWith("HeaderSpaceNetwork") ? "<init>" : start.group(1));
+                calls.putIfAbsent(method, new TreeSet<>());
+            } else if (call.find() && !line.contains("Method java/")) {
+                String owner = call.group(1) == null ? type : call.group(1);
+                calls.get(method).add(owner + "." + call.group(2).replace("\"", ""));
+            }
+        }
+        check(calls.size() > 100, "javap told of " + calls.size() + " methods only");
+        int deepest = 0;
+        for (String from : calls.keySet()) {
+            deepest = Math.max(deepest, depth(from, calls, 0));
+        }
+        check(deepest >= 4 && deepest <= 8, "calls go " + deepest + " deep");
+        System.out.println("calls go " + deepest + " deep");
+    }
+
+    /** How many calls stand open at once at most, the method itself among them. */
+    private static int depth(String method, Map<String, Set<String>> calls, int above) {
+        if (above > 50) {
+            return above;
+        }
+        int deepest = 0;
+        for (String called : calls.getOrDefault(method, Set.of())) {
+            deepest = Math.max(deepest, depth(called, calls, above + 1));
+        }
+        return deepest + 1;
     }
 
     private static void checkSource(String source) {

@@ -50,6 +50,9 @@ public final class PacketsTest {
         Script.run("24: the copy that is followed alone",
             "connect(0, 1, 1, 0) = 1; insertForward(0, 0, 1, 0, 0, 3) = 1; trace(1, 0) = 1; trace(1, 1) = NONE",
             "traceEnd(1) = 0");
+        Script.run("24: back to where it was injected",
+            "connect(0, 0, 1, 0) = 1; insertForward(0, 0, 15, 0, 0, 1) = 1; insertForward(1, 0, 15, 0, 0, 1) = 1",
+            "trace(5, 0) = 5; trace(5, 1) = 1005; trace(5, 2) = NONE; traceEnd(5) = 3; trace(0, 2) = NONE");
         Script.run("24: errors", "inject(0, 0, 1, 1) = 8; trace(0, 0) = BAD_VALUE; trace(16, 0) = BAD_VALUE",
             "trace(-1, 0) = BAD_VALUE; trace(1, -1) = BAD_VALUE; trace(1, -2147483648) = BAD_VALUE",
             "trace(65, 0) = BAD_VALUE; trace(1, 0) = 1");

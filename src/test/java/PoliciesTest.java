@@ -67,6 +67,8 @@ public final class PoliciesTest {
         Script.run("31: switched off rules", two, "addPolicy(false, 0, 0, 1, 3) = 0",
             "counterexamples(0) = 65280; switchRule(1, 0, false) = 1; counterexamples(0) = 0",
             "undo() = 3; counterexamples(0) = 65280");
+        Script.run("31: delivery where it came in", "insertForward(0, 0, 1, 8, 8, 1) = 1",
+            "addPolicy(true, 0, 0, 0, 0) = 0; counterexamples(0) = 255");
         Script.run("31: five bits", "reset(5) = 4; addPolicy(true, 0, 0, 0, 1) = 0; counterexamples(0) = 4294967295");
         Script.run("31: errors",
             "counterexamples(0) = NO_VALUE; counterexamples(-1) = NO_VALUE; addPolicy(true, 0, 0, 0, 1) = 0",
