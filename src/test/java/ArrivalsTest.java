@@ -42,6 +42,13 @@ public final class ArrivalsTest {
         Script.run("17: copies go to each output", "connect(0, 1, 1, 0) = 1; connect(0, 2, 1, 1) = 2",
             "insertForward(0, 0, 1, 0, 0, 15) = 1; arriving(1, 0) = 65535; arriving(1, 1) = 65535",
             "arriving(0, 1) = 0");
+        Script.run("17: by two rules over one link",
+            "connect(0, 1, 1, 0) = 1; insertForward(0, 0, 1, 8, 8, 2) = 1; insertForward(0, 1, 1, 0, 0, 2) = 2",
+            "arriving(1, 0) = 65535; arrivals(1, 0) = 16");
+        Script.run("17: from two ports over one link",
+            "connect(2, 1, 0, 0) = 1; connect(2, 2, 0, 3) = 2; connect(0, 1, 1, 0) = 3; inject(2, 0, 0, 0) = 16",
+            "insertForward(2, 0, 1, 0, 0, 6) = 1; insertForward(0, 0, 1, 0, 0, 2) = 1; setRewriting(0, 0, 15, 3) = 1",
+            "insertForward(0, 1, 8, 0, 0, 2) = 2; setRewriting(0, 1, 15, 5) = 1; arriving(1, 0) = 40");
         Script.run("17: around a loop once", "connect(0, 1, 0, 2) = 1; insertForward(0, 0, 15, 0, 0, 2) = 1",
             "inject(0, 0, 15, 4) = 1; arriving(0, 2) = 16; arriving(0, 0) = 16; arriving(0, 1) = 0",
             "arrivals(0, 0) = 2");

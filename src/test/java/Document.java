@@ -11,7 +11,8 @@ import java.util.regex.Pattern;
 
 /**
  * The document, cut into its sentences; what a semicolon divides counts as two, and the sign at the
- * end is left away. The sentences of a promise stand under its number, those before promise 1 under 0; examples and headings are left out.
+ * end is left away. The sentences of a promise stand under its number, those before promise 1 under 0;
+ * examples and headings are left out.
  */
 final class Document {
     private static final Path PATH = Path.of("../shared/DOC.md");

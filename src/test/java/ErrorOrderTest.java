@@ -1,11 +1,13 @@
 import java.util.ArrayList;
 import java.util.List;
+import java.util.Set;
 
 /**
  * "Where several errors can apply, the order of the @return line is the order of the checks.": every
  * method with every choice of arguments at and beyond their bounds, the smallest and largest int among
  * them, on an empty, a filled and a full network. What is due is worked out from the table of methods
- * alone. For up to two wrong arguments also this: "A call that reports an error changes nothing."
+ * alone. For up to two wrong arguments also this: "A call that reports an error changes nothing."; and
+ * where nothing is wrong, a call that only asks changes nothing either.
  */
 public final class ErrorOrderTest {
     private static final int MIN = Integer.MIN_VALUE;
@@ -37,8 +39,8 @@ public final class ErrorOrderTest {
 
     /**
      * A method: a letter for each argument (B box, P port, R rule, L place in the list, S set of ports,
-     * V number of b bits, H header that must be injected, K number from 0, Y policy, T truth value, a
-     * digit for a number from 0 to it), and its errors in the order of the @return line.
+     * V number of b bits, H header that must be injected, K number from 0, Y policy, T truth value, C
+     * character, b bits, a digit for a number from 0 to it), and its errors in the order of the @return line.
      */
     private record Method(String name, String arguments, String errors) {
     }
@@ -73,7 +75,15 @@ public final class ErrorOrderTest {
         new Method("setPolicyCube", "YVV", "BAD_VALUE"),
         new Method("counterexamples", "Y", "NO_VALUE"),
         new Method("readRule", "B", "NO_SUCH_PLACE FAULT FULL"),
+        new Method("type", "C", "FULL"),
+        new Method("undo", "", "NONE"),
+        new Method("loops", "", ""),
+        new Method("violated", "", ""),
         new Method("ruleText", "BRK", "NO_SUCH_PLACE NO_SUCH_RULE BAD_VALUE NONE"));
+    /** Methods that change nothing, whatever they answer. */
+    private static final Set<String> ASKING = Set.of("other", "rule", "count", "shadowed", "arriving", "delivered",
+        "arrivals", "hits", "cube", "origin", "distance", "trace", "traceEnd", "loops", "cutSize", "cutRule",
+        "counterexamples", "violated", "ruleText");
 
     private final State state;
     private final Method method;
@@ -120,16 +130,16 @@ public final class ErrorOrderTest {
         }
         long got = network.call(method.name(), arguments);
         String told = state.name() + ": " + Caller.told(method.name(), arguments);
+        boolean none = method.errors().endsWith("NONE") && got == HeaderSpaceNetwork.NONE;
         if (due != NO_ERROR) {
             Script.due(told, got, due);
-            if (looking) {
-                Step refused = new Step(method.name(), arguments.clone(), true, due);
-                Bounds.unchanged(state.name(), state.steps(), refused, before);
-            }
         } else {
-            boolean none = method.errors().endsWith("NONE") && got == HeaderSpaceNetwork.NONE;
             Script.due(told + ", " + got + ", an error", got < 0 && !none ? 1 : 0, 0);
             network = null;
+        }
+        if (looking && (due != NO_ERROR || none || ASKING.contains(method.name()))) {
+            Step made = new Step(method.name(), arguments.clone(), true, got);
+            Bounds.unchanged(state.name(), state.steps(), made, before);
         }
     }
 
@@ -163,6 +173,7 @@ public final class ErrorOrderTest {
         return switch (error) {
             case "FULL" -> state.isFull() && (!method.arguments().startsWith("B") || a[0] == 0 || a[0] == 5);
             case "FAULT" -> state.fault() != 0;
+            case "NONE" -> method.name().equals("undo") && state.rules() == 0;
             case "NOT_POSSIBLE" -> method.name().equals("connect") ? !canConnect(a) : state.isFull() || a[1] == 1;
             default -> false;
         };
@@ -182,6 +193,7 @@ public final class ErrorOrderTest {
             case "NOT_POSSIBLE" -> -4;
             case "FULL" -> -5;
             case "NO_VALUE" -> Long.MIN_VALUE;
+            case "NONE" -> -6;
             case "FAULT" -> state.fault();
             default -> throw new IllegalStateException(error);
         };
@@ -202,6 +214,7 @@ public final class ErrorOrderTest {
             case 'S', 'V', 'H' -> 15;
             case 'Y' -> state.policies() - 1;
             case 'T' -> 1;
+            case 'C' -> Character.MAX_VALUE;
             case 'K' -> MAX;
             default -> kind - '0';
         };
@@ -213,8 +226,8 @@ public final class ErrorOrderTest {
 
     /** Both ends of the range, what lies next to them, and the ends of all ints. */
     private List<Integer> values(char kind) {
-        if (kind == 'T') {
-            return List.of(0, 1);
+        if (kind == 'T' || kind == 'C') {
+            return List.of(0, last(kind));
         }
         List<Integer> values = new ArrayList<>();
         for (long value : new long[] {MIN, least(kind) - 1, least(kind), last(kind), last(kind) + 1L, MAX}) {

@@ -80,10 +80,7 @@ final class Looks {
 
     private void atArrivals() {
         see("loops");
-        see("violated");
-        for (int policy = 0; policy < 8; policy++) {
-            see("counterexamples", policy);
-        }
+        atCounterexamples();
         for (int box = 0; box < 6; box++) {
             for (int what = 0; what < 3; what++) {
                 see("arrivals", box, what);
@@ -174,9 +171,19 @@ final class Looks {
         see("clearText");
     }
 
+    /** Asks only for policies that are there, so that no refused call can hide what another one did. */
+    private long atCounterexamples() {
+        long policies = see("count", 3);
+        for (int policy = 0; policy < policies; policy++) {
+            see("counterexamples", policy);
+        }
+        see("violated");
+        return policies;
+    }
+
     /** Tries each way through one box alone, so that the places and kinds of policies show. */
     private void atPolicies() {
-        if (see("count", 3) == 0) {
+        if (atCounterexamples() == 0) {
             return;
         }
         for (int box = 0; box < 6; box++) {
@@ -187,9 +194,7 @@ final class Looks {
                 see("disconnect", box, port);
             }
         }
-        for (int policy = 0; policy < 8; policy++) {
-            see("counterexamples", policy);
-        }
+        atCounterexamples();
         for (int way = 0; way < 96; way++) {
             see("insertForward", way / 16, 0, 1 << way / 4 % 4, 0, 0, 1 << way % 4);
             see("violated");

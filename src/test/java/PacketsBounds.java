@@ -22,24 +22,29 @@ final class PacketsBounds {
     }
 
     /**
-     * A packet comes in with header 0 at port 2 of box 0. Each box counts it up to 31, around its ports
-     * 1 and 0, and sends it on as 0 by port 3: 32 arrivals in each box.
+     * A packet comes in with header 0 at port 2 of box 0, and goes on by port 3 to port 2 of the next
+     * box, until the last one: 32 arrivals in each box.
      */
     private static String counters() {
         StringBuilder calls = new StringBuilder("reset(5) = 4; inject(0, 2, 31, 0) = 1;");
         for (int box = 0; box < 6; box++) {
-            calls.append("connect(" + box + ", 1, " + box + ", 0) = ?;");
             if (box > 0) {
                 calls.append("connect(" + (box - 1) + ", 3, " + box + ", 2) = ?;");
             }
-            for (int bit = 0; bit < 5; bit++) {
-                int care = (2 << bit) - 1;
-                calls.append("insertForward(" + box + ", " + bit + ", 15, " + care + ", " + care / 2 + ", 2) = ?;");
-                calls.append("setRewriting(" + box + ", " + bit + ", " + care + ", " + (1 << bit) + ") = 1;");
-            }
-            calls.append("insertForward(" + box + ", 5, 15, 0, 0, 8) = 6; setRewriting(" + box + ", 5, 31, 0) = 1;");
+            calls.append(counter(box));
         }
         return calls.toString();
+    }
+
+    /** Rules that count a header up to 31, around ports 1 and 0, and then send it by port 3 as 0. */
+    private static String counter(int box) {
+        StringBuilder calls = new StringBuilder("connect(" + box + ", 1, " + box + ", 0) = ?;");
+        for (int bit = 0; bit < 5; bit++) {
+            int care = (2 << bit) - 1;
+            calls.append("insertForward(" + box + ", " + bit + ", 15, " + care + ", " + care / 2 + ", 2) = ?;");
+            calls.append("setRewriting(" + box + ", " + bit + ", " + care + ", " + (1 << bit) + ") = 1;");
+        }
+        return calls + "insertForward(" + box + ", 5, 15, 0, 0, 8) = 6; setRewriting(" + box + ", 5, 31, 0) = 1;";
     }
 
     private static void promise23() {
@@ -133,6 +138,12 @@ final class PacketsBounds {
             "switchRule(0, 0, false) = 1; cutSize(0, 1) = 0; cutRule(0, 1, 0) = NONE; insertForward(0, 1, 1, 15, 15, 2) = 2",
             "cutSize(0, 1) = 1; cutRule(0, 1, 0) = 1; inject(0, 0, 15, 0) = 1; cutSize(0, 1) = 0; inject(0, 0, 15, 15) = 1",
             "cutSize(0, 1) = 1; connect(0, 1, 1, 0) = 1; cutSize(0, 1) = 0; rule(0, 0, 6) = 0; rule(0, 1, 6) = 1; count(4) = 3");
+        Bounds.test(27, finds, counters(), "cutSize(5, 3) = 1; cutRule(5, 3, 0) = 5; inject(0, 2, 0, 0) = 32",
+            "cutSize(5, 3) = 1; cutRule(5, 3, 0) = 5; delivered(5, 3) = 1; connect(5, 3, 0, 2) = 12; cutSize(5, 3) = 0");
+        // 31 headers go around for ever in box 0, while 0 is on its long way through box 5.
+        Bounds.test(27, finds, "reset(5) = 4; connect(0, 1, 0, 0) = 1; connect(0, 3, 5, 2) = 2; inject(0, 2, 0, 0) = 32",
+            "insertForward(0, 0, 15, 31, 0, 8) = 1; insertForward(0, 1, 15, 0, 0, 2) = 2", counter(5),
+            "cutSize(5, 3) = 1; cutRule(5, 3, 0) = 0; loops() = 4294967294; distance(0, 5, 2) = 1; trace(0, 32) = 5031");
         Bounds.test(27, "Only sets of at most 3 rules are tried", "insertForward(0, 0, 1, 3, 0, 2) = 1; cutSize(0, 1) = 1",
             "insertForward(0, 1, 1, 3, 1, 2) = 2; cutSize(0, 1) = 2; insertForward(0, 2, 1, 3, 2, 2) = 3; cutSize(0, 1) = 3",
             "insertForward(0, 3, 1, 3, 3, 2) = 4; cutSize(0, 1) = NONE; insertForward(0, 4, 1, 0, 0, 2) = 5",

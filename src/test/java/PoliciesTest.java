@@ -64,6 +64,10 @@ public final class PoliciesTest {
             "insertForward(1, 0, 15, 1, 1, 9) = 1; insertForward(1, 1, 15, 0, 0, 1) = 2",
             "addPolicy(true, 0, 0, 1, 3) = 0; addPolicy(false, 0, 0, 1, 3) = 1; counterexamples(0) = 5",
             "counterexamples(1) = 10");
+        Script.run("31: one of two copies",
+            "connect(0, 1, 1, 0) = 1; connect(0, 2, 2, 0) = 2; insertForward(0, 0, 1, 0, 0, 6) = 1",
+            "insertForward(1, 0, 1, 8, 8, 8) = 1; insertForward(2, 0, 1, 0, 0, 8) = 1; addPolicy(true, 0, 0, 1, 3) = 0",
+            "addPolicy(true, 0, 0, 2, 3) = 1; counterexamples(0) = 255; counterexamples(1) = 0; violated() = 1");
         Script.run("31: switched off rules", two, "addPolicy(false, 0, 0, 1, 3) = 0",
             "counterexamples(0) = 65280; switchRule(1, 0, false) = 1; counterexamples(0) = 0",
             "undo() = 3; counterexamples(0) = 65280");
