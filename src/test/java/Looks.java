@@ -2,9 +2,10 @@ import java.util.ArrayList;
 import java.util.List;
 
 /**
- * All that can be seen of an object after some calls. That takes more calls than one object may be
- * asked, and some looks change what they look at, so each group of looks makes the calls again on a
- * new object. Two objects that show the same differ in nothing that the document tells of.
+ * What can be seen of an object after some calls, by every method that asks. That takes more calls than one
+ * object may be asked, and some looks change what they look at, so each group of looks makes the calls
+ * again on a new object. State is looked at as a whole (links, rules, history, policies, text); of what
+ * follows from it, such as traces, origins and cubes, a choice of arguments is asked for.
  */
 final class Looks {
     private static final int GROUPS = 7;
