@@ -1,4 +1,4 @@
-/** The sentences before promise 1, each by a promise that shows it. */
+/** The sentences before promise 1, each by a promise that shows it, and those behind promise 37. */
 final class DescriptionBounds {
     private DescriptionBounds() {
     }
@@ -14,6 +14,7 @@ final class DescriptionBounds {
         edits();
         errors();
         constants();
+        notPromised();
     }
 
     private static void uses() {
@@ -262,5 +263,12 @@ final class DescriptionBounds {
             "arriving(6, 0) = -9223372036854775808; delivered(0, 4) = -9223372036854775808",
             "counterexamples(0) = -9223372036854775808");
         Bounds.ordinary(1, "The constructor and the methods follow, a promise each: the signature, then what it does");
+    }
+    private static void notPromised() {
+        Bounds.ordinary(1, "How the state is held inside the object is free, as are the speed of each call, the text of"
+            + " toString and the behaviour of equals and hashCode");
+        Bounds.ordinary(1, "Use of one object from several threads at once is not promised to be safe");
+        Bounds.test(2, "Nothing is promised beyond the answers and state changes described above, and nothing about an object"
+            + " after its 512th call", "inject(0, 0, 15, 3) = 1; 509 * arriving(0, 0) = 8; reset(5) = 4; reset(5) = 5");
     }
 }

@@ -1,7 +1,6 @@
 import java.io.IOException;
-import java.io.PrintWriter;
-import java.io.StringWriter;
 import java.lang.reflect.Constructor;
+import java.lang.reflect.Executable;
 import java.lang.reflect.Field;
 import java.lang.reflect.Method;
 import java.lang.reflect.Modifier;
@@ -9,30 +8,21 @@ import java.nio.file.Files;
 import java.nio.file.Path;
 import java.util.ArrayList;
 import java.util.List;
-import java.util.Map;
 import java.util.Set;
-import java.util.TreeMap;
 import java.util.TreeSet;
 import java.util.regex.Matcher;
 import java.util.regex.Pattern;
-import java.util.spi.ToolProvider;
 
-/** The face of the document, and those rules of LANGUAGE.md that can be seen from outside. */
+/**
+ * The face of the document, and those rules of LANGUAGE.md that a program can look at; what is printed
+ * begins with the rule's number.
+ */
 public final class LanguageTest {
-    private static final String FACE =
-        "reset(int) connect(int,int,int,int) disconnect(int,int) other(int,int)"
-        + " insertDrop(int,int,int,int,int) insertForward(int,int,int,int,int,int)"
-        + " setRewriting(int,int,int,int) removeRule(int,int) moveRule(int,int,int)"
-        + " switchRule(int,int,boolean) undo() rule(int,int,int) count(int) shadowed(int)"
-        + " inject(int,int,int,int) arriving(int,int)long delivered(int,int)long arrivals(int,int)"
-        + " hits(int,int) cube(int,int,int,int) origin(int,int,int) distance(int,int,int)"
-        + " trace(int,int) traceEnd(int) loops()long cutSize(int,int) cutRule(int,int,int)"
-        + " addPolicy(boolean,int,int,int,int) setPolicyCube(int,int,int)"
-        + " counterexamples(int)long violated() clearPolicies() type(char) clearText()"
-        + " readRule(int) ruleText(int,int,int)";
-    private static final Set<String> CONSTANTS = Set.of("NO_SUCH_PLACE", "NO_SUCH_RULE", "BAD_VALUE",
-        "NOT_POSSIBLE", "FULL", "NONE", "NO_VALUE");
     private static final Path SOURCE = Path.of("src/main/java/HeaderSpaceNetwork.java");
+    /** Of the library that rule 4 allows, what the class uses; another call has to be looked up there. */
+    private static final Set<String> LIBRARY = Set.of("java/lang/Object.<init>:()V", "java/util/Arrays.fill:([JJ)V",
+        "java/util/Arrays.fill:([II)V", "java/lang/Math.min:(II)I", "java/lang/Long.bitCount:(J)I");
+    private static final Class<?> FACE = HeaderSpaceNetwork.class;
 
     private static int wrong = 0;
 
@@ -41,9 +31,14 @@ public final class LanguageTest {
 
     public static void main(String[] args) throws IOException {
         checkFace();
+        for (Class<?> type : types()) {
+            checkFields(type);
+            checkMethods(type);
+        }
         checkClasses();
         checkSource(Files.readString(SOURCE));
-        checkDepth();
+        checkCalls();
+        checkLater();
         System.out.println(wrong + " wrong");
         if (wrong != 0) {
             System.exit(1);
@@ -57,121 +52,119 @@ public final class LanguageTest {
         }
     }
 
+    private static List<Class<?>> types() {
+        List<Class<?>> types = new ArrayList<>(List.of(FACE));
+        types.addAll(List.of(FACE.getDeclaredClasses()));
+        return types;
+    }
+
+    /** The public members, written as the document's face has them but for the names of parameters. */
     private static void checkFace() {
-        Class<?> face = HeaderSpaceNetwork.class;
-        check(face.getModifiers() == (Modifier.PUBLIC | Modifier.FINAL), "the class is not public final");
-        Set<String> methods = new TreeSet<>();
-        Set<String> hidden = new TreeSet<>();
-        for (Method method : face.getDeclaredMethods()) {
-            if (Modifier.isPublic(method.getModifiers())) {
-                methods.add(signature(method));
-                check(!Modifier.isStatic(method.getModifiers()), method + " is static");
-            } else {
-                hidden.add(method.getName());
-                check(Modifier.isPrivate(method.getModifiers()), method + " is not private");
-            }
+        check(FACE.getModifiers() == (Modifier.PUBLIC | Modifier.FINAL), "1: the class is not public final");
+        Set<String> due = new TreeSet<>();
+        for (String line : new Document().face()) {
+            due.add(line.replaceAll("(int|long|char|boolean) \\w+(?=[,)])", "$1").replace("Long.MIN_VALUE",
+                Long.MIN_VALUE + ""));
         }
-        check(methods.equals(new TreeSet<>(Set.of(FACE.split(" ")))), "the methods are " + methods);
-        for (String method : FACE.split(" ")) {
-            String name = method.substring(0, method.indexOf('('));
-            check(!hidden.contains(name), "a private method bears the name " + name);
+        Set<String> members = new TreeSet<>();
+        for (Field field : FACE.getDeclaredFields()) {
+            addMember(field.getModifiers(), field, members);
         }
-        Constructor<?>[] constructors = face.getDeclaredConstructors();
-        check(constructors.length == 1 && constructors[0].getParameterCount() == 0
-            && Modifier.isPublic(constructors[0].getModifiers()), "the constructors");
-        checkFields(face);
+        for (Method method : FACE.getDeclaredMethods()) {
+            addMember(method.getModifiers(), method, members);
+        }
+        for (Constructor<?> constructor : FACE.getDeclaredConstructors()) {
+            addMember(constructor.getModifiers(), constructor, members);
+        }
+        check(due.size() == 7 + 1 + 36, "the document's face has " + due.size() + " members");
+        check(members.equals(due), "1: the members are " + members);
     }
 
-    private static String signature(Method method) {
-        StringBuilder signature = new StringBuilder(method.getName()).append('(');
-        for (Class<?> type : method.getParameterTypes()) {
-            signature.append(signature.charAt(signature.length() - 1) == '(' ? "" : ",").append(type);
+    private static void addMember(int modifiers, Object member, Set<String> members) {
+        if (Modifier.isPublic(modifiers)) {
+            String told = member.toString().replace("HeaderSpaceNetwork.", "").replace(",", ", ");
+            members.add(told + (member instanceof Field field ? " = " + valueOf(field) : "") + ";");
+        } else {
+            check(Modifier.isPrivate(modifiers), "1: " + member + " is not private");
         }
-        return signature.append(')').append(method.getReturnType() == long.class ? "long" : "").toString();
     }
 
-    private static void checkFields(Class<?> face) {
-        Set<String> constants = new TreeSet<>();
-        for (Field field : face.getDeclaredFields()) {
-            int modifiers = field.getModifiers();
-            if (Modifier.isPublic(modifiers)) {
-                constants.add(field.getName());
-                check(Modifier.isStatic(modifiers) && Modifier.isFinal(modifiers), field + "");
-                check(field.getType() == (field.getName().equals("NO_VALUE") ? long.class : int.class),
-                    field + " has another type");
-            } else {
-                check(Modifier.isPrivate(modifiers), field + " is not private");
-            }
-            check(!Modifier.isStatic(modifiers) || Modifier.isFinal(modifiers), field + " is not final");
+    private static long valueOf(Field constant) {
+        try {
+            return constant.getLong(null);
+        } catch (IllegalAccessException e) {
+            throw new IllegalStateException(e);
         }
-        check(constants.equals(new TreeSet<>(CONSTANTS)), "the constants are " + constants);
+    }
+
+    private static void checkFields(Class<?> type) {
+        int fields = 0;
+        for (Field field : type.getDeclaredFields()) {
+            Class<?> held = field.getType();
+            if (Modifier.isStatic(field.getModifiers())) {
+                check(Modifier.isFinal(field.getModifiers()), "5: " + field + " is not final");
+                check(Set.of(int.class, long.class, boolean.class, char.class, String.class, int[].class, long[].class,
+                    char[].class, byte[].class).contains(held), "5: " + field + " has another type");
+            } else {
+                fields++;
+                Class<?> element = held.isArray() ? held.getComponentType() : held;
+                check(element.isPrimitive() || types().contains(element), "3: " + field + " has another type");
+            }
+        }
+        check(fields <= 20, "11: " + type + " has " + fields + " fields");
+    }
+
+    private static void checkMethods(Class<?> type) {
+        Set<String> face = new TreeSet<>();
+        for (Method method : FACE.getMethods()) {
+            face.add(method.getName());
+        }
+        List<Executable> all = new ArrayList<>(List.of(type.getDeclaredMethods()));
+        all.addAll(List.of(type.getDeclaredConstructors()));
+        for (Executable method : all) {
+            check(method.getParameterCount() <= 7, "11: " + method + " has too many parameters");
+            boolean hidden = type != FACE || !Modifier.isPublic(method.getModifiers());
+            check(!hidden || !face.contains(method.getName()), "1: " + method + " bears the name of a public one");
+        }
     }
 
     private static void checkClasses() {
-        Class<?>[] inside = HeaderSpaceNetwork.class.getDeclaredClasses();
-        check(inside.length <= 11, "there are " + inside.length + " classes inside");
+        Class<?>[] inside = FACE.getDeclaredClasses();
+        check(inside.length <= 11, "11: there are " + inside.length + " classes inside");
         for (Class<?> type : inside) {
-            check(Modifier.isStatic(type.getModifiers()), type + " is not static");
-            check(Modifier.isPrivate(type.getModifiers()), type + " is not private");
-            int fields = 0;
-            for (Field field : type.getDeclaredFields()) {
-                fields += Modifier.isStatic(field.getModifiers()) ? 0 : 1;
-                check(!Modifier.isStatic(field.getModifiers()), field + " is static");
-            }
-            check(fields <= 20, type + " has " + fields + " fields");
-            for (Method method : type.getDeclaredMethods()) {
-                check(method.getParameterCount() <= 7, method + " has too many parameters");
-            }
+            check(Modifier.isStatic(type.getModifiers()), "2: " + type + " is not static");
+            check(Modifier.isPrivate(type.getModifiers()), "1: " + type + " is not private");
+            check(type.getDeclaredClasses().length == 0, "2: " + type + " has classes inside");
+            // A constructor may call methods of its own class only if none can override them.
+            check(Modifier.isFinal(type.getModifiers()), "12: " + type + " is not final");
         }
     }
 
-    /** Reads what javap tells of the compiled classes: who calls whom of the file's own methods. */
-    private static void checkDepth() {
-        String classes = System.getProperty("java.class.path");
-        StringWriter told = new StringWriter();
-        List<String> arguments = new ArrayList<>(List.of("-c", "-p", "-cp", classes, "HeaderSpaceNetwork"));
-        for (Class<?> type : HeaderSpaceNetwork.class.getDeclaredClasses()) {
-            arguments.add(type.getName());
-        }
-        PrintWriter writer = new PrintWriter(told);
-        ToolProvider.findFirst("javap").orElseThrow().run(writer, writer, arguments.toArray(new String[0]));
-        Map<String, Set<String>> calls = new TreeMap<>();
-        String type = "";
-        String method = "";
-        for (String line : told.toString().split("\n")) {
-            Matcher head = Pattern.compile("^(?:\\w+ )*class (HeaderSpaceNetwork\\S*) \\{").matcher(line);
-            Matcher start = Pattern.compile("^  [^ ].*?([\\w$]+)\\(.*\\);$").matcher(line);
-            Matcher call = Pattern.compile("// Method (?:(HeaderSpaceNetwork[\\w$]*)\\.)?(\"<init>\"|\\w+):")
-                .matcher(line);
-            if (head.find()) {
-                type = head.group(1);
-            } else if (start.find()) {
-                method = type + "." + (start.group(1).startsWith("HeaderSpaceNetwork") ? "<init>" : start.group(1));
-                calls.putIfAbsent(method, new TreeSet<>());
-            } else if (call.find() && !line.contains("Method java/")) {
-                String owner = call.group(1) == null ? type : call.group(1);
-                calls.get(method).add(owner + "." + call.group(2).replace("\"", ""));
-            }
-        }
+    private static void checkCalls() {
+        Calls calls = new Calls(types());
         check(calls.size() > 100, "javap told of " + calls.size() + " methods only");
-        int deepest = 0;
-        for (String from : calls.keySet()) {
-            deepest = Math.max(deepest, depth(from, calls, 0));
+        for (String called : calls.ofLibrary()) {
+            check(LIBRARY.contains(called), "4: the library's " + called + " is called");
         }
-        check(deepest >= 4 && deepest <= 8, "calls go " + deepest + " deep");
+        int deepest = calls.deepest();
+        check(deepest >= 4 && deepest <= 8, "11: calls go " + deepest + " deep");
         System.out.println("calls go " + deepest + " deep");
     }
 
-    /** How many calls stand open at once at most, the method itself among them. */
-    private static int depth(String method, Map<String, Set<String>> calls, int above) {
-        if (above > 50) {
-            return above;
+    /** What calls answer after the 512th is free, but they may not throw or fail to end. */
+    private static void checkLater() {
+        HeaderSpaceNetwork network = new HeaderSpaceNetwork();
+        for (int i = 0; i < 20_000; i++) {
+            network.insertForward(i % 7, i % 6, i % 16, i % 17, i % 13, i % 15);
+            network.connect(i % 6, i % 5, i / 3 % 6, i / 5 % 4);
+            network.addPolicy(i % 2 == 0, i % 6, i % 4, i % 5, i % 3);
+            network.type((char) ('!' + i % 32));
+            network.moveRule(i % 6, i % 7, i % 5);
+            network.cutSize(i % 6, i % 4);
+            network.readRule(i % 6);
+            network.violated();
         }
-        int deepest = 0;
-        for (String called : calls.getOrDefault(method, Set.of())) {
-            deepest = Math.max(deepest, depth(called, calls, above + 1));
-        }
-        return deepest + 1;
+        check(network.count(4) == 12 && network.count(0) == 4, "7: what 160000 calls left behind");
     }
 
     private static void checkSource(String source) {
@@ -179,15 +172,20 @@ public final class LanguageTest {
             .replaceAll("'[^']'", "' '").replaceAll("\"[^\"\n]*\"", "\"\"");
         for (String word : new String[] {"throw", "throws", "try", "catch", "finally", "synchronized",
             "assert", "->", "::", "package", "Object", "Random", "System\\.(?!arraycopy)", "Exact",
-            "equals", "hashCode", "toString", "while\\s*\\(\\s*true", "volatile", "transient", "native"}) {
+            "equals", "hashCode", "toString", "while", "static \\{", "volatile", "transient", "native"}) {
             String bounded = Character.isLetter(word.charAt(0)) ? "\\b" + word : word;
-            check(!Pattern.compile(bounded).matcher(code).find(), "the source has " + word);
+            check(!Pattern.compile(bounded).matcher(code).find(), "6: the source has " + word);
         }
         Matcher imports = Pattern.compile("import ([^;]*);").matcher(code);
         while (imports.find()) {
-            check(imports.group(1).matches("java\\.util\\.(Arrays|ArrayList|List|Iterator)"), imports.group());
+            check(imports.group(1).matches("java\\.util\\.(Arrays|ArrayList|List|Iterator)"), "4: " + imports.group());
         }
-        check(source.chars().allMatch(c -> c == '\n' || c >= 32 && c < 127), "a sign that is not ASCII");
+        Matcher loops = Pattern.compile("\\bfor \\(([^\n]*)\\) \\{").matcher(code);
+        while (loops.find()) {
+            check(loops.group(1).matches("int (\\w+) = [^;]*;.*\\b\\1 (<|<=|>|>=) .*; \\1(\\+\\+|--)"),
+                "9: no end can be seen of " + loops.group());
+        }
+        check(source.chars().allMatch(c -> c == '\n' || c >= 32 && c < 127), "4: a sign that is not ASCII");
         checkLengths(source);
     }
 
@@ -201,7 +199,7 @@ public final class LanguageTest {
                 while (!lines[end].equals(head.group(1) + "}")) {
                     end++;
                 }
-                check(end - i < 60, "too long: " + lines[i]);
+                check(end - i < 60, "11: too long: " + lines[i]);
             }
         }
     }
